@@ -370,7 +370,8 @@ public final class ScriptFront {
         }
 
         static boolean isNameChar(int c) {
-            return c >= 'a' && c <= 'z' || c >= 'A' && c <= 'Z' || isDigit(c) || c == '$' || c == '_';
+            boolean letter = c >= 'a' && c <= 'z' || c >= 'A' && c <= 'Z';
+            return letter || c >= '0' && c <= '9' || c == '$' || c == '_';
         }
     }
 
@@ -536,9 +537,7 @@ public final class ScriptFront {
         private void readNumber() {
             boolean zero = tape.at(start) == '0';
             int second = tape.at(start + 1);
-            if (zero && Tape.isDigit(second)) {
-                flaw.raise(Flaw.TOKEN, start);
-            }
+            refuseIf(zero && Tape.isDigit(second));
             if (zero && (second == 'x' || second == 'X')) {
                 end = behindDigits(start + 2, true);
                 refuseIf(end == start + 2);
@@ -547,21 +546,24 @@ public final class ScriptFront {
                 if (tape.at(end) == '.') {
                     end = behindDigits(end + 1, false);
                 }
-                readExponent();
+                int exponent = exponentPlace(end);
+                if (exponent != NONE) {
+                    end = behindDigits(exponent, false);
+                    refuseIf(end == exponent);
+                }
             }
             refuseIf(Tape.isNameChar(tape.at(end)));
             kind = Token.NUMBER;
         }
 
-        private void readExponent() {
-            int letter = tape.at(end);
+        /** Where the digits of an exponent must begin, NONE if there is no e or E. */
+        private int exponentPlace(int place) {
+            int letter = tape.at(place);
             if (letter != 'e' && letter != 'E') {
-                return;
+                return NONE;
             }
-            int sign = tape.at(end + 1);
-            int digits = sign == '+' || sign == '-' ? end + 2 : end + 1;
-            end = behindDigits(digits, false);
-            refuseIf(end == digits);
+            int sign = tape.at(place + 1);
+            return sign == '+' || sign == '-' ? place + 2 : place + 1;
         }
 
         private int behindDigits(int from, boolean hexadecimal) {
@@ -613,25 +615,30 @@ public final class ScriptFront {
                 refuseIf(tape.at(place) == NONE || Tape.isLineEnd(tape.at(place)));
                 place++;
             }
-            end = place + 1;
-            readFlags();
+            end = behindFlags(place + 1);
+            refuseIf(Tape.isNameChar(tape.at(end)));
             kind = Token.PATTERN;
             code = 0;
         }
 
-        private void readFlags() {
+        /** Stops ahead of a character that is no flag, or one that stood before. */
+        private int behindFlags(int from) {
             boolean global = false;
             boolean anyCase = false;
             boolean manyLines = false;
-            for (int i = 0; i < TAPE_LIMIT && Tape.isNameChar(tape.at(end)); i++) {
-                int c = tape.at(end);
-                boolean wrong = c == 'g' ? global : c == 'i' ? anyCase : c != 'm' || manyLines;
-                refuseIf(wrong);
-                global = global || c == 'g';
-                anyCase = anyCase || c == 'i';
-                manyLines = manyLines || c == 'm';
-                end++;
+            for (int place = from; place <= tape.length; place++) {
+                int c = tape.at(place);
+                if (c == 'g' && !global) {
+                    global = true;
+                } else if (c == 'i' && !anyCase) {
+                    anyCase = true;
+                } else if (c == 'm' && !manyLines) {
+                    manyLines = true;
+                } else {
+                    return place;
+                }
             }
+            return tape.length;
         }
 
         private void readSign() {
@@ -705,6 +712,10 @@ public final class ScriptFront {
             }
             last[parent] = child;
             up[child] = parent;
+        }
+
+        int kindOf(int node) {
+            return has(node) ? kind[node] : NONE;
         }
 
         boolean hasOneChild(int parent) {
@@ -884,6 +895,13 @@ public final class ScriptFront {
             return draft.make(kind, scanner.start, 0, 0);
         }
 
+        /** A node whose first token is the current one, which is passed. */
+        private int makeFirst(int kind) {
+            int node = draft.make(kind, scanner.start, 0, 0);
+            scanner.next();
+            return node;
+        }
+
         /** A node whose own token is the current one, which is passed. */
         private int makeOf(int kind) {
             int node = draft.make(kind, scanner.start, scanner.length(), scanner.code);
@@ -891,25 +909,14 @@ public final class ScriptFront {
             return node;
         }
 
-        private int makeOfName(int kind) {
+        private void demandName() {
             if (scanner.kind != Token.NAME) {
                 refuse();
             }
-            return makeOf(kind);
         }
 
         private int nothing() {
             return draft.make(Kind.NOTHING, 0, 0, 0);
-        }
-
-        private void endStatement() {
-            if (scanner.code == ';') {
-                scanner.next();
-            } else if (scanner.lineAhead || scanner.code == '}' || scanner.kind == Token.END) {
-                semicolons++;
-            } else {
-                refuse();
-            }
         }
 
         /** What may stand directly in the text or in a body. */
@@ -923,27 +930,47 @@ public final class ScriptFront {
 
         private int statement(int around) {
             beginWithin(around);
-            if (scanner.code == '{') {
-                return block(around + 1);
+            int node = unended(around + 1);
+            if (needsSemicolon(draft.kindOf(node))) {
+                endStatement();
             }
-            if (scanner.code == ';') {
-                int node = makeHere(Kind.EMPTY);
-                scanner.next();
-                return node;
-            }
-            if (scanner.kind == Token.WORD) {
-                return wordStatement(around + 1);
-            }
-            if (scanner.kind == Token.NAME && scanner.colonBehind()) {
-                return label(around + 1);
-            }
-            return expressionStatement(around + 1);
+            return node;
         }
 
-        private int wordStatement(int around) {
+        private static boolean needsSemicolon(int kind) {
+            switch (kind) {
+                case Kind.VAR:
+                case Kind.EXPRESSION:
+                case Kind.DO:
+                case Kind.CONTINUE:
+                case Kind.BREAK:
+                case Kind.RETURN:
+                case Kind.THROW:
+                    return true;
+                default:
+                    return false;
+            }
+        }
+
+        private void endStatement() {
+            if (scanner.code == ';') {
+                scanner.next();
+            } else if (scanner.lineAhead || scanner.code == '}' || scanner.kind == Token.END) {
+                semicolons++;
+            } else {
+                refuse();
+            }
+        }
+
+        /** A statement up to the semicolon that some of them need. */
+        private int unended(int around) {
             switch (scanner.code) {
+                case '{':
+                    return block(around);
+                case ';':
+                    return makeFirst(Kind.EMPTY);
                 case Token.VAR:
-                    return varStatement(around);
+                    return declarators(around, false);
                 case Token.IF:
                     return ifStatement(around);
                 case Token.DO:
@@ -953,9 +980,9 @@ public final class ScriptFront {
                 case Token.FOR:
                     return forStatement(around);
                 case Token.CONTINUE:
-                    return jumpStatement(Kind.CONTINUE);
+                    return jump(Kind.CONTINUE);
                 case Token.BREAK:
-                    return jumpStatement(Kind.BREAK);
+                    return jump(Kind.BREAK);
                 case Token.RETURN:
                     return returnStatement(around);
                 case Token.SWITCH:
@@ -968,14 +995,25 @@ public final class ScriptFront {
                     refuse();
                     return NONE;
                 default:
-                    return expressionStatement(around);
+                    return nameOrExpression(around);
             }
+        }
+
+        private int nameOrExpression(int around) {
+            if (scanner.kind == Token.NAME && scanner.colonBehind()) {
+                int label = makeOf(Kind.LABEL);
+                pass(':');
+                draft.add(label, statement(around));
+                return label;
+            }
+            int node = makeHere(Kind.EXPRESSION);
+            draft.add(node, sequence(around, false));
+            return node;
         }
 
         private int block(int around) {
             demand('{');
-            int node = makeHere(Kind.BLOCK);
-            scanner.next();
+            int node = makeFirst(Kind.BLOCK);
             for (int i = 0; i <= TAPE_LIMIT && listGoesOn(); i++) {
                 draft.add(node, statement(around));
             }
@@ -983,29 +1021,8 @@ public final class ScriptFront {
             return node;
         }
 
-        private int label(int around) {
-            int node = makeOf(Kind.LABEL);
-            pass(':');
-            draft.add(node, statement(around));
-            return node;
-        }
-
-        private int expressionStatement(int around) {
-            int node = makeHere(Kind.EXPRESSION);
-            draft.add(node, sequence(around, false));
-            endStatement();
-            return node;
-        }
-
-        private int varStatement(int around) {
-            int node = declarators(around, false);
-            endStatement();
-            return node;
-        }
-
         private int declarators(int around, boolean noIn) {
-            int node = makeHere(Kind.VAR);
-            scanner.next();
+            int node = makeFirst(Kind.VAR);
             draft.add(node, declarator(around, noIn));
             for (int i = 0; i <= TAPE_LIMIT && scanner.code == ','; i++) {
                 scanner.next();
@@ -1015,7 +1032,8 @@ public final class ScriptFront {
         }
 
         private int declarator(int around, boolean noIn) {
-            int node = makeOfName(Kind.DECLARATOR);
+            demandName();
+            int node = makeOf(Kind.DECLARATOR);
             if (scanner.code == '=') {
                 scanner.next();
                 draft.add(node, x(around, noIn));
@@ -1031,8 +1049,7 @@ public final class ScriptFront {
         }
 
         private int ifStatement(int around) {
-            int node = makeHere(Kind.IF);
-            scanner.next();
+            int node = makeFirst(Kind.IF);
             condition(node, around);
             draft.add(node, statement(around));
             if (scanner.code == Token.ELSE) {
@@ -1043,18 +1060,15 @@ public final class ScriptFront {
         }
 
         private int doStatement(int around) {
-            int node = makeHere(Kind.DO);
-            scanner.next();
+            int node = makeFirst(Kind.DO);
             draft.add(node, statement(around));
             pass(Token.WHILE);
             condition(node, around);
-            endStatement();
             return node;
         }
 
         private int whileStatement(int around) {
-            int node = makeHere(Kind.WHILE);
-            scanner.next();
+            int node = makeFirst(Kind.WHILE);
             condition(node, around);
             draft.add(node, statement(around));
             return node;
@@ -1100,40 +1114,37 @@ public final class ScriptFront {
             return node;
         }
 
-        private int jumpStatement(int kind) {
+        private int jump(int kind) {
             int place = scanner.start;
             scanner.next();
-            boolean named = scanner.kind == Token.NAME && !scanner.lineAhead;
-            int node = named ? makeOf(kind) : draft.make(kind, place, 0, 0);
-            endStatement();
+            if (scanner.kind != Token.NAME || scanner.lineAhead) {
+                return draft.make(kind, place, 0, 0);
+            }
+            int node = draft.make(kind, scanner.start, scanner.length(), 0);
+            scanner.next();
             return node;
         }
 
         private int returnStatement(int around) {
-            int node = makeHere(Kind.RETURN);
-            scanner.next();
+            int node = makeFirst(Kind.RETURN);
             if (!scanner.lineAhead && scanner.code != ';' && listGoesOn()) {
                 draft.add(node, sequence(around, false));
             }
-            endStatement();
             return node;
         }
 
         private int throwStatement(int around) {
-            int node = makeHere(Kind.THROW);
-            scanner.next();
+            int node = makeFirst(Kind.THROW);
             beginWithin(around);
             if (scanner.lineAhead) {
                 refuse();
             }
             draft.add(node, sequence(around, false));
-            endStatement();
             return node;
         }
 
         private int switchStatement(int around) {
-            int node = makeHere(Kind.SWITCH);
-            scanner.next();
+            int node = makeFirst(Kind.SWITCH);
             condition(node, around);
             pass('{');
             for (int i = 0; i <= TAPE_LIMIT && listGoesOn(); i++) {
@@ -1163,8 +1174,7 @@ public final class ScriptFront {
         }
 
         private int tryStatement(int around) {
-            int node = makeHere(Kind.TRY);
-            scanner.next();
+            int node = makeFirst(Kind.TRY);
             draft.add(node, block(around));
             boolean catches = scanner.code == Token.CATCH;
             draft.add(node, catches ? catchPart(around) : nothing());
@@ -1182,7 +1192,8 @@ public final class ScriptFront {
         private int catchPart(int around) {
             scanner.next();
             pass('(');
-            int node = makeOfName(Kind.CATCH);
+            demandName();
+            int node = makeOf(Kind.CATCH);
             pass(')');
             draft.add(node, block(around));
             return node;
@@ -1191,30 +1202,27 @@ public final class ScriptFront {
         private int function(int kind, int around) {
             int place = scanner.start;
             scanner.next();
-            boolean named = kind == Kind.DECLARATION || scanner.kind == Token.NAME;
-            int node = named ? makeOfName(kind) : draft.make(kind, place, 0, 0);
+            if (kind == Kind.DECLARATION) {
+                demandName();
+            }
+            int node = scanner.kind == Token.NAME ? makeOf(kind) : draft.make(kind, place, 0, 0);
             pass('(');
-            if (scanner.code != ')') {
-                parameters(node);
+            for (int i = 0; i <= TAPE_LIMIT && scanner.code != ')'; i++) {
+                if (i > 0) {
+                    pass(',');
+                }
+                demandName();
+                draft.add(node, makeOf(Kind.PARAMETER));
             }
             pass(')');
             draft.add(node, body(around));
             return node;
         }
 
-        private void parameters(int node) {
-            draft.add(node, makeOfName(Kind.PARAMETER));
-            for (int i = 0; i <= TAPE_LIMIT && scanner.code == ','; i++) {
-                scanner.next();
-                draft.add(node, makeOfName(Kind.PARAMETER));
-            }
-        }
-
         private int body(int around) {
             demand('{');
             beginWithin(around);
-            int node = makeHere(Kind.BODY);
-            scanner.next();
+            int node = makeFirst(Kind.BODY);
             for (int i = 0; i <= TAPE_LIMIT && listGoesOn(); i++) {
                 draft.add(node, element(around + 1));
             }
@@ -1360,8 +1368,7 @@ public final class ScriptFront {
         }
 
         private int creation(int around) {
-            int node = makeHere(Kind.NEW);
-            scanner.next();
+            int node = makeFirst(Kind.NEW);
             beginWithin(around);
             draft.add(node, member(around + 1));
             if (scanner.code == '(') {
@@ -1397,12 +1404,11 @@ public final class ScriptFront {
 
         private void arguments(int node, int around) {
             pass('(');
-            if (scanner.code != ')') {
-                draft.add(node, x(around, false));
-                for (int i = 0; i <= TAPE_LIMIT && scanner.code == ','; i++) {
-                    scanner.next();
-                    draft.add(node, x(around, false));
+            for (int i = 0; i <= TAPE_LIMIT && scanner.code != ')'; i++) {
+                if (i > 0) {
+                    pass(',');
                 }
+                draft.add(node, x(around, false));
             }
             pass(')');
         }
@@ -1425,9 +1431,7 @@ public final class ScriptFront {
         private int codedOperand(int around) {
             switch (scanner.code) {
                 case Token.THIS:
-                    int self = makeHere(Kind.THIS);
-                    scanner.next();
-                    return self;
+                    return makeFirst(Kind.THIS);
                 case Token.NULL:
                 case Token.TRUE:
                 case Token.FALSE:
@@ -1450,8 +1454,7 @@ public final class ScriptFront {
         }
 
         private int array(int around) {
-            int node = makeHere(Kind.ARRAY);
-            scanner.next();
+            int node = makeFirst(Kind.ARRAY);
             for (int i = 0; i <= TAPE_LIMIT && scanner.code != ']'; i++) {
                 if (scanner.code == ',') {
                     draft.add(node, nothing());
@@ -1467,8 +1470,7 @@ public final class ScriptFront {
         }
 
         private int object(int around) {
-            int node = makeHere(Kind.OBJECT);
-            scanner.next();
+            int node = makeFirst(Kind.OBJECT);
             for (int i = 0; i <= TAPE_LIMIT && scanner.code != '}'; i++) {
                 draft.add(node, property(around));
                 if (scanner.code != '}') {
@@ -1880,7 +1882,11 @@ public final class ScriptFront {
         private void closeUpTo(int outer, int last) {
             int k = last;
             for (int i = 0; i < NODE_LIMIT && k > outer; i++) {
-                close(k, last);
+                if (tree.kindOf(k) >= Kind.THIS) {
+                    closeExpression(k, last);
+                } else {
+                    closeStatement(k);
+                }
                 k = tree.parentOf(k);
             }
         }
@@ -2094,26 +2100,16 @@ public final class ScriptFront {
             }
         }
 
-        /** What a node has behind its children, of which last is the last part. */
-        private void close(int k, int last) {
+        /** What a node has behind its children, the last part of which is the node last. */
+        private void closeExpression(int k, int last) {
             int children = tree.childrenOf(k);
             switch (tree.kindOf(k)) {
-                case Kind.BLOCK:
-                case Kind.BODY:
-                case Kind.OBJECT:
-                    put("}");
-                    break;
-                case Kind.SWITCH:
-                    putIf(children == 1, ")");
-                    putIf(children == 1, "{");
-                    put("}");
-                    break;
-                case Kind.CASE:
-                    putIf(children == 1, ":");
-                    break;
                 case Kind.ARRAY:
                     putIf(tree.kindOf(last) == Kind.NOTHING && tree.parentOf(last) == k, ",");
                     put("]");
+                    break;
+                case Kind.OBJECT:
+                    put("}");
                     break;
                 case Kind.INDEX:
                     put("]");
@@ -2131,17 +2127,28 @@ public final class ScriptFront {
                     putText(k);
                     break;
                 default:
-                    closeStatement(k);
                     break;
             }
             putIf(hasBrackets(k), ")");
         }
 
         private void closeStatement(int k) {
+            int children = tree.childrenOf(k);
             switch (tree.kindOf(k)) {
+                case Kind.BLOCK:
+                case Kind.BODY:
+                    put("}");
+                    break;
+                case Kind.SWITCH:
+                    putIf(children == 1, ")");
+                    putIf(children == 1, "{");
+                    put("}");
+                    break;
+                case Kind.CASE:
+                    putIf(children == 1, ":");
+                    break;
                 case Kind.VAR:
-                    int outer = tree.kindOf(tree.parentOf(k));
-                    putIf(outer != Kind.FOR && outer != Kind.FOR_IN || tree.rankOf(k) > 0, ";");
+                    putIf(!isForPart(k), ";");
                     break;
                 case Kind.DO:
                     put(")");
@@ -2158,6 +2165,12 @@ public final class ScriptFront {
                 default:
                     break;
             }
+        }
+
+        /** Whether a node is the first part of a for, not its statement. */
+        private boolean isForPart(int k) {
+            int outer = tree.kindOf(tree.parentOf(k));
+            return (outer == Kind.FOR || outer == Kind.FOR_IN) && tree.rankOf(k) == 0;
         }
 
         private void putIf(boolean wanted, String token) {
