@@ -42,6 +42,11 @@ final class FaultTest {
         PROBE.due("fault(2) with a fault 5", front.fault(2), 3);
         PROBE.due("a\\nbreak", Probe.parsed(front, "a\nbreak"), "fault 6 at 2");
         PROBE.due("fault(2) with a fault 6", front.fault(2), 2);
+        for (int i = 0; i < 40; i++) {
+            PROBE.due("a fault in the middle", Probe.parsed(front, "a||b&&c|d^e&f==g<h<<i+j*"), "fault 2 at 24");
+        }
+        PROBE.due("a text behind many faults", Probe.parsed(front, "a+b"), "5");
+        PROBE.due("a\\nbreak", Probe.parsed(front, "a\nbreak"), "fault 6 at 2");
         int[] others = {3, 4, -1, Integer.MAX_VALUE, Integer.MIN_VALUE};
         for (int what : others) {
             PROBE.due("fault(" + what + ")", front.fault(what), -1);

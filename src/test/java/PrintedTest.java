@@ -120,6 +120,7 @@ final class PrintedTest {
         prints("a[(b,c)]", "a[b,c];");
         prints("if((a,b))c", "if(a,b)c;");
         same("(a=b)+c;", "a+(b=c);", "(a=b)?c:d;", "(a=b).c;", "(a=b)[c];", "(a=b)();", "-(a=b);", "a||(b=c);");
+        same("var a=b=c;", "[a=b];", "({a:b=c});", "a=b,c;", "f(a=b,c=d);", "a[b=c];");
         prints("a=(b=c)", "a=b=c;");
         prints("a?(b=c):(d=e)", "a?b=c:d=e;");
         same("(a?b:c)?d:e;", "(a?b:c)+d;", "a+(b?c:d);", "(a?b:c).d;", "!(a?b:c);");

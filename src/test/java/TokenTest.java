@@ -54,7 +54,7 @@ final class TokenTest {
         fine("a=/b/", "a(/b/,/c/)", "[/a/]", "({a:/b/})", "!/a/", "a?/b/:/c/", "return_/a/g", "typeof/a/", "if(/a/)/b/g");
         fine("{}/a/", "a\n{}/b/g", "a=b\n/c/g", "throw/a/", "while(a)/b/", "do/a/;while(/b/)", "for(/a/;/b/;/c/)/d/");
         fine("new/a/", "case_:/a/", "switch(/a/){case/b/:/c/}", "/[[]/", "/a/.b", "/a/\n/b/g", "/'/", "/\"/", "a:/b/");
-        wrong(0, "/a", "/a\n/", "/a\\\n/", "/[/", "/[/\n]/", "/a/gg", "/a/ggi", "/a/x", "/a/gx", "/a/g1", "/a/$", "/\\/", "/");
+        wrong(0, "/a", "/a\n/", "/a\\\n/", "/[/", "/[/\n]/", "/a/gg", "/a/ii", "/a/mm", "/a/gimg", "/a/ggi", "/a/x", "/a/gx", "/a/g1", "/a/$", "/\\/", "/");
         wrong(0, "/=", "/=\n/", "/\\");
         wrong(2, "a=/b", "a,/b/ii", "!!/a");
         wrong(7, "return /a");
@@ -101,7 +101,7 @@ final class TokenTest {
         wrong(1, "a#", "a\\", "a@b");
         PROBE.due("a b#", Probe.outcome("a b#"), "fault 2 at 2");
         PROBE.due("a #", Probe.outcome("a #"), "fault 1 at 2");
-        fine("$", "_", "a1$_", "iff", "If", "breaks", "instanceofs", "tru", "get", "let", "class", "undefined", "with");
+        fine("$", "_", "A", "Z", "a", "z", "Z9", "z0", "a1$_", "iff", "If", "breaks", "instanceofs", "tru", "get", "let", "class", "undefined", "with");
         tree("a>>>=b>>>c>>d>e", "0[5[48[31 46[46[46[31 31] 31] 31]]]]");
         tree("a+++b", "0[5[46[44[31] 31]]]");
         tree("a---b", "0[5[46[44[31] 31]]]");

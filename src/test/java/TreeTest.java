@@ -204,6 +204,11 @@ final class TreeTest {
         tree("throw a,b", "0[17[49[31 31]]]");
         tree("(function(){return})", "0[5[39[23[13]]]]");
         tree("(function(){return a,b})", "0[5[39[23[13[49[31 31]]]]]]");
+        tree("(function(){return a in b})", "0[5[39[23[13[46[31 31]]]]]]");
+        tree("throw a in b", "0[17[46[31 31]]]");
+        tree("if(a in b);", "0[6[46[31 31] 4]]");
+        tree("var a=b in c", "0[2[3[46[31 31]]]]");
+        tree("switch(a in b){case c in d:}", "0[14[46[31 31] 15[46[31 31]]]]");
         tree("(function(){return\na})", "0[5[39[23[13 5[31]]]]]");
         tree("(function(){return/a/})", "0[5[39[23[13[35]]]]]");
         wrong("var", 3);
