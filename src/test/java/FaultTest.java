@@ -152,6 +152,9 @@ final class FaultTest {
         wrong(3, 19, "(".repeat(19) + ")");
         wrong(3, 19, "(".repeat(19) + "/a/");
         wrong(1, 20, "{".repeat(20) + "'");
+        wrong(1, 6, "throw\n/a");
+        wrong(3, 25, "{".repeat(19) + "throw\na" + "}".repeat(19));
+        wrong(2, 24, "{".repeat(18) + "throw\na" + "}".repeat(18));
         wrong(2, 4, "1=a b");
         wrong(1, 3, "1=a#b");
         wrong(2, 8, "break\na b");
@@ -225,6 +228,8 @@ final class FaultTest {
         fine("'use strict';({a:1,'a':2,\"a\":3})", "'use strict';({1:1,1.0:2,0x1:3})", "'use strict';({a:{a:1}})");
         fine("'use strict';({a:1});({a:2})", "'use strict';(function(a){})(function(a){})", "'use strict';({a:1,b:{a:1}})");
         wrong(5, 27, "'use strict';({1:1,b:{a:1},1:2})");
+        fine("'use strict';({b:{a:1},a:2})", "'use strict';evil=1", "'use strict';argumentz=1", "'use strike';delete a");
+        fine("'use strict';var evil", "'use strict';function argumentz(evil){}");
         fine("'use strict'.a;delete b", "'use strict'+a;delete b", "'use strict',a;delete b", "a:'use strict';delete b", "{'use strict'}delete b");
         fine("'use\\x20strict';delete b", "'use strict ';delete b", "('use strict');delete b", "1;'use strict';delete b", ";'use strict';delete b");
         fine("('a');'use strict';delete b", "var a;'use strict';delete b", "function f(){}'use strict';delete b", "if(a)'use strict';delete b");
@@ -237,7 +242,9 @@ final class FaultTest {
 
     private static void jumps() {
         fine("switch(a){default:}", "switch(a){default:switch(b){default:}}", "switch(a){case b:case b:}");
+        fine("switch(a){case b:switch(c){default:}default:}", "switch(a){case b:switch(c){default:}case d:default:}");
         wrong(6, 18, "switch(a){default:default:}");
+        wrong(6, 37, "switch(a){default:;switch(b){case c:}default:}");
         wrong(6, 25, "switch(a){default:case b:default:case c:}");
         wrong(6, 0, "return");
         wrong(6, 1, "{return a}");
