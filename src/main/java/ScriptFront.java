@@ -867,9 +867,15 @@ public final class ScriptFront {
             flaw.raise(Flaw.SYNTAX, scanner.start);
         }
 
-        /** A wrong token goes ahead of depth, and depth ahead of a token that can't stand here. */
+        /**
+         * A wrong token goes ahead of depth, and depth ahead of a token that can't stand here. Nothing
+         * begins where the text ends, so it ends too early there, however deep.
+         */
         private void beginWithin(int around) {
             scanner.operandDue();
+            if (scanner.kind == Token.END) {
+                refuse();
+            }
             if (around >= DEPTH_LIMIT) {
                 flaw.raise(Flaw.DEEP, scanner.start);
             }

@@ -6,6 +6,7 @@ final class FaultTest {
         answersOfFault();
         semicolons();
         depth();
+        endWithinOthers();
         firstOfTokenSyntaxDepth();
         targets();
         strictCode();
@@ -141,6 +142,49 @@ final class FaultTest {
         wrong(2, 29, "{".repeat(17) + "a=function()b" + "}".repeat(17));
         fine("{".repeat(17) + "new a(b)" + "}".repeat(17));
         wrong(3, 22, "{".repeat(18) + "new a(b)" + "}".repeat(18));
+    }
+
+    /** Fault 2 at the text's length where the text ends, and fault 3 at a token that stands there instead. */
+    private static void endsTooEarly(String text, String token) {
+        wrong(2, text.length(), text);
+        wrong(2, text.length() + 1, text + "\n");
+        wrong(2, text.length() + 5, text + " /**/");
+        wrong(3, text.length(), text + token);
+    }
+
+    private static void endWithinOthers() {
+        String[] tokens = {"a", ")", "}", "1", "/a/", "in", "*"};
+        for (String token : tokens) {
+            endsTooEarly("a:".repeat(20), token);
+            endsTooEarly("(".repeat(19), token);
+            endsTooEarly("!".repeat(19), token);
+            endsTooEarly("new ".repeat(19), token);
+        }
+        endsTooEarly("do ".repeat(20), ";");
+        endsTooEarly("for(;;)".repeat(20), ";");
+        endsTooEarly("{".repeat(19) + "throw ", "a");
+        endsTooEarly("{".repeat(19) + "if(", "a");
+        endsTooEarly("{".repeat(19) + "for(;", "a");
+        endsTooEarly("{".repeat(19) + "for(;;", "a");
+        endsTooEarly("{".repeat(19) + "for(", "a");
+        endsTooEarly("{".repeat(19) + "var a=", "b");
+        endsTooEarly("{".repeat(19) + "switch(", "a");
+        endsTooEarly("a=".repeat(19), "a");
+        endsTooEarly("a?".repeat(19), "a");
+        endsTooEarly("a[".repeat(19), "]");
+        endsTooEarly("[".repeat(18) + "(", "a");
+        endsTooEarly("{".repeat(18) + "a(", "b");
+        endsTooEarly("typeof ".repeat(19), "a");
+        endsTooEarly("{".repeat(18) + "new ", "a");
+        wrong(2, 20, "{".repeat(20));
+        wrong(2, 130, "function f(){".repeat(10));
+        wrong(2, 29, "{".repeat(17) + "a=function()");
+        wrong(2, 18, "(".repeat(18));
+        wrong(2, 38, "a:".repeat(19));
+        wrong(1, 19, "(".repeat(19) + "/*");
+        ScriptFront front = new ScriptFront();
+        PROBE.due("a\\nb;((", Probe.parsed(front, "a\nb;" + "(".repeat(19)), "fault 2 at 23");
+        PROBE.due("fault(2) where the text ends within others", front.fault(2), 0);
     }
 
     private static void firstOfTokenSyntaxDepth() {
