@@ -152,6 +152,13 @@ final class FaultTest {
         wrong(3, text.length(), text + token);
     }
 
+    private static void neverDeepAtTheEnd(String text) {
+        for (int n = 0; n <= text.length(); n++) {
+            String part = text.substring(0, n);
+            PROBE.due(part, Probe.outcome(part).equals("fault 3 at " + n), false);
+        }
+    }
+
     private static void endWithinOthers() {
         String[] tokens = {"a", ")", "}", "1", "/a/", "in", "*"};
         for (String token : tokens) {
@@ -182,6 +189,14 @@ final class FaultTest {
         wrong(2, 18, "(".repeat(18));
         wrong(2, 38, "a:".repeat(19));
         wrong(1, 19, "(".repeat(19) + "/*");
+        String[] deep = {
+            "{".repeat(18) + "a=new b(function(){c})", "if(a)do ".repeat(10) + "for(var b=c?d:e in[f,{g:-h}]);",
+            "switch(a){case b:".repeat(18) + "c:throw typeof(d)", "try{}catch(a){".repeat(19) + "return b[c],d",
+            "while(a)with:".repeat(10) + "b", "(function(){return ".repeat(9) + "a"
+        };
+        for (String text : deep) {
+            neverDeepAtTheEnd(text);
+        }
         ScriptFront front = new ScriptFront();
         PROBE.due("a\\nb;((", Probe.parsed(front, "a\nb;" + "(".repeat(19)), "fault 2 at 23");
         PROBE.due("fault(2) where the text ends within others", front.fault(2), 0);
