@@ -60,7 +60,8 @@ final class AgainEdgeTest {
 
     private static void tooLong() {
         EDGE.sentence("false, changing nothing, if it has more than 480 characters");
-        String[] texts = {"a".repeat(479), "a".repeat(480), ";".repeat(475) + "new a", ";".repeat(477) + "{a}", "{1..a}".repeat(80), "a\n".repeat(240), "{a}".repeat(120), "{a}".repeat(121)};
+        String[] texts = {"a".repeat(479), "a".repeat(480), ";".repeat(475) + "new a", ";".repeat(477) + "{a}", "{1..a}".repeat(80),
+            "a\n".repeat(240), "{a}".repeat(120), "{a}".repeat(121)};
         int[] sizes = {480, 481, 483, 481, 720, 480, 480, 484};
         for (int i = 0; i < texts.length; i++) {
             ScriptFront front = new ScriptFront();
@@ -98,8 +99,10 @@ final class AgainEdgeTest {
     private static void readsAsTheSameTree() {
         EDGE.sentence("a tree is printed as a text that reads as the same tree");
         String[] texts = {
-            "", ";", "a\nb", "'use strict'\na", "('use strict')\ndelete a", "for(var a=(b in c),d;;);", "new (a().b)", "(function(){})()", "({}).a", "1..a", "a- -b", "a+ ++b",
-            "/a/ /b", "if(a){if(b)c}else d", "a=b,c", "(a,b).c", "do a\nwhile(b)", "switch(a){case b:c\ndefault:}", "[,a,,]", "a?(b,c):d", "x:for(;;)continue x", "try{}catch(a){}"
+            "", ";", "a\nb", "'use strict'\na", "('use strict')\ndelete a", "for(var a=(b in c),d;;);", "new (a().b)", "(function(){})()",
+            "({}).a", "1..a", "a- -b", "a+ ++b",
+            "/a/ /b", "if(a){if(b)c}else d", "a=b,c", "(a,b).c", "do a\nwhile(b)", "switch(a){case b:c\ndefault:}", "[,a,,]", "a?(b,c):d",
+            "x:for(;;)continue x", "try{}catch(a){}"
         };
         for (String text : texts) {
             ScriptFront front = new ScriptFront();

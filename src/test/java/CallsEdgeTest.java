@@ -16,7 +16,8 @@ final class CallsEdgeTest {
 
     /** 62 calls a round: a full text is typed, read, and asked for. */
     private static void fullTextsToTheLast() {
-        String[] texts = {";".repeat(480), "{1..a}".repeat(80), "a=b+c*d;".repeat(60), "[" + ",".repeat(478) + "]", "(".repeat(240) + ")".repeat(240)};
+        String[] texts = {";".repeat(480), "{1..a}".repeat(80), "a=b+c*d;".repeat(60), "[" + ",".repeat(478) + "]",
+            "(".repeat(240) + ")".repeat(240)};
         for (String text : texts) {
             ScriptFront front = new ScriptFront();
             String first = Probe.parsed(front, text) + " " + front.printed(-1);

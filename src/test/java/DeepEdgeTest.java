@@ -147,8 +147,10 @@ final class DeepEdgeTest {
 
     private static void thingsOfTheSameDepth() {
         EDGE.sentence("within 20 others of these");
-        EDGE.fine(within(18, "a,b,c"), within(18, "a+b*c"), within(18, "a.b.c"), within(17, "a(b,c)(d)[e]"), within(17, "[a,b,,c]"), within(17, "new a(b)"));
-        EDGE.fine(within(17, "a?b:c"), within(17, "a=b"), within(16, "a={b:c,d:e}"), within(17, "(a,b)"), within(18, "a++"), within(17, "++a"));
+        EDGE.fine(within(18, "a,b,c"), within(18, "a+b*c"), within(18, "a.b.c"), within(17, "a(b,c)(d)[e]"), within(17, "[a,b,,c]"),
+            within(17, "new a(b)"));
+        EDGE.fine(within(17, "a?b:c"), within(17, "a=b"), within(16, "a={b:c,d:e}"), within(17, "(a,b)"), within(18, "a++"), within(17,
+            "++a"));
         EDGE.wrong(3, 20, within(18, "a?b:c"), within(18, "a=b"));
         EDGE.wrong(3, 20, within(18, "a(b,c)"), within(18, "a[e]"));
         EDGE.wrong(3, 19, within(18, "[a,b]"), within(18, "(a)"), within(18, "!a"), within(19, "a"));
@@ -161,13 +163,17 @@ final class DeepEdgeTest {
     private static void thingsThatAreNotCounted() {
         EDGE.sentence("within 20 others of these");
         EDGE.fine("a" + "+b".repeat(239), "a" + ".b".repeat(239), "a" + "[0]".repeat(159), "a" + "(b)".repeat(159), "a" + ",b".repeat(239));
-        EDGE.fine("a:;".repeat(160), "{}".repeat(240), "(a);".repeat(120), "!a;".repeat(160), "new a;".repeat(80), "var a" + ",b=c".repeat(100));
+        EDGE.fine("a:;".repeat(160), "{}".repeat(240), "(a);".repeat(120), "!a;".repeat(160), "new a;".repeat(80),
+            "var a" + ",b=c".repeat(100));
         EDGE.fine("a||b&&c|d^e&f==g<h<<i+j*k;".repeat(18), "[" + "[],".repeat(150) + "]", "switch(a){" + "case b:".repeat(60) + "}");
-        EDGE.fine("function f(){}".repeat(34), "if(a);else{}".repeat(40), "try{}catch(a){}".repeat(32), "a?b:c,".repeat(79) + "d", "a=b,".repeat(119) + "d");
+        EDGE.fine("function f(){}".repeat(34), "if(a);else{}".repeat(40), "try{}catch(a){}".repeat(32), "a?b:c,".repeat(79) + "d",
+            "a=b,".repeat(119) + "d");
         EDGE.fine(within(17, "a(" + "b,".repeat(200) + "c)"), within(18, "a" + "+b".repeat(200)));
         EDGE.sentence("within 20 others of these");
-        EDGE.fine("(".repeat(18) + "a" + ")".repeat(18), "[".repeat(19) + "]".repeat(19), "!".repeat(18) + "a", "new ".repeat(18) + "a", "a=".repeat(18) + "b");
-        EDGE.wrong(3, 19, "(".repeat(19) + "a" + ")".repeat(19), "[".repeat(20) + "]".repeat(20), "!".repeat(19) + "a", "(".repeat(480), "!".repeat(480));
+        EDGE.fine("(".repeat(18) + "a" + ")".repeat(18), "[".repeat(19) + "]".repeat(19), "!".repeat(18) + "a", "new ".repeat(18) + "a",
+            "a=".repeat(18) + "b");
+        EDGE.wrong(3, 19, "(".repeat(19) + "a" + ")".repeat(19), "[".repeat(20) + "]".repeat(20), "!".repeat(19) + "a", "(".repeat(480),
+            "!".repeat(480));
         EDGE.wrong(3, 76, "new ".repeat(19) + "a");
         EDGE.wrong(3, 38, "a=".repeat(19) + "b");
         EDGE.wrong(3, 20, "{".repeat(21), "{".repeat(480));

@@ -215,7 +215,8 @@ final class ExpressionEdgeTest {
         EDGE.x("(function(a){})", "39[22 23]");
         EDGE.x("(function(a,b){c;d})", "39[22 22 23[5[31] 5[31]]]");
         EDGE.wrong(2, 9, "(function", "(function)", "(function{})");
-        EDGE.wrong(2, 10, "(function if(){})", "(function 1(){})", "(function(,){})", "(function('a'){})", "(function(if){})", "(function(");
+        EDGE.wrong(2, 10, "(function if(){})", "(function 1(){})", "(function(,){})", "(function('a'){})", "(function(if){})",
+            "(function(");
         EDGE.wrong(2, 11, "(function a)", "(function(a", "(function()", "(function()a)", "(function();)");
         EDGE.wrong(2, 12, "(function(a,){})", "(function(a b){})", "(function(){", "(function(){)");
         EDGE.wrong(2, 12, "(function(a,");
@@ -241,10 +242,14 @@ final class ExpressionEdgeTest {
         EDGE.wrong(2, 8, "for(a?b in c:d;;);", "for(a,b in c;;);", "for(a=b in c;;);", "for(a+b in c;;);");
         EDGE.wrong(2, 10, "for(a?b:c in d;;);");
         EDGE.wrong(2, 7, "for(-a in b;;);");
-        EDGE.fine("for((a in b);;);", "for([a in b];;);", "for(a[b in c];;);", "for(a(b in c);;);", "for(new a(b in c);;);", "for({a:b in c};;);");
-        EDGE.fine("for(a=function(){b in c};;);", "for(var a=(b in c);;);", "for(var a=(b in c)in d);", "for(a?(b in c):d;;);", "for((a,b in c);;);");
-        EDGE.fine("for(;a in b;);", "for(;;a in b);", "for(a in b in c);", "for(;;)a in b", "for(a in b)c in d", "if(a in b);", "var a=b in c");
-        EDGE.fine("throw a in b", "while(a in b);", "do;while(a in b)", "switch(a in b){case c in d:}", "function f(){return a in b}", "a?b in c:d in e", "a=b in c", "a[b in c]");
+        EDGE.fine("for((a in b);;);", "for([a in b];;);", "for(a[b in c];;);", "for(a(b in c);;);", "for(new a(b in c);;);",
+            "for({a:b in c};;);");
+        EDGE.fine("for(a=function(){b in c};;);", "for(var a=(b in c);;);", "for(var a=(b in c)in d);", "for(a?(b in c):d;;);",
+            "for((a,b in c);;);");
+        EDGE.fine("for(;a in b;);", "for(;;a in b);", "for(a in b in c);", "for(;;)a in b", "for(a in b)c in d", "if(a in b);",
+            "var a=b in c");
+        EDGE.fine("throw a in b", "while(a in b);", "do;while(a in b)", "switch(a in b){case c in d:}", "function f(){return a in b}",
+            "a?b in c:d in e", "a=b in c", "a[b in c]");
         EDGE.tree("for(a instanceof b;;);", "0[9[46[31 31] 21 21 4]]");
         EDGE.tree("for(var a=function(){for(b in c);}in d);", "0[10[2[3[39[23[10[31 31 4]]]]] 31 4]]");
     }

@@ -123,12 +123,18 @@ final class FaultEdgeTest {
     private static void endOfTheText() {
         EDGE.sentence("the text's length, if the text ends too early");
         String[] early = {
-            "(", "[", "{", "a(", "a[", "a.", "a,", "a=", "a+", "a?", "a?b", "a?b:", "!", "new", "typeof", "({", "({a", "({a:", "({a:b", "var", "var a,", "var a=", "if", "if(",
-            "if(a", "if(a)", "if(a);else", "do", "do;", "do;while", "do;while(", "do;while(a", "while", "while(", "while(a", "while(a)", "for", "for(", "for(;", "for(;;",
-            "for(;;)", "for(a", "for(a in", "for(a in b", "for(a in b)", "for(var", "for(var a", "switch", "switch(", "switch(a", "switch(a)", "switch(a){", "switch(a){case",
-            "switch(a){case b", "switch(a){case b:", "switch(a){default", "switch(a){default:", "a:", "throw", "try", "try{", "try{}", "try{}catch", "try{}catch(", "try{}catch(a",
-            "try{}catch(a)", "try{}catch(a){", "try{}finally", "try{}finally{", "function", "function f", "function f(", "function f(a", "function f(a,", "function f()",
-            "function f(){", "(function", "(function(", "(function()", "(function(){", "(function(){}", "(function(){return", "a\n++", "a in", "a instanceof", "x" + ".y".repeat(200) + "["
+            "(", "[", "{", "a(", "a[", "a.", "a,", "a=", "a+", "a?", "a?b", "a?b:", "!", "new", "typeof", "({", "({a", "({a:", "({a:b",
+            "var", "var a,", "var a=", "if", "if(",
+            "if(a", "if(a)", "if(a);else", "do", "do;", "do;while", "do;while(", "do;while(a", "while", "while(", "while(a", "while(a)",
+            "for", "for(", "for(;", "for(;;",
+            "for(;;)", "for(a", "for(a in", "for(a in b", "for(a in b)", "for(var", "for(var a", "switch", "switch(", "switch(a",
+            "switch(a)", "switch(a){", "switch(a){case",
+            "switch(a){case b", "switch(a){case b:", "switch(a){default", "switch(a){default:", "a:", "throw", "try", "try{", "try{}",
+            "try{}catch", "try{}catch(", "try{}catch(a",
+            "try{}catch(a)", "try{}catch(a){", "try{}finally", "try{}finally{", "function", "function f", "function f(", "function f(a",
+            "function f(a,", "function f()",
+            "function f(){", "(function", "(function(", "(function()", "(function(){", "(function(){}", "(function(){return", "a\n++",
+            "a in", "a instanceof", "x" + ".y".repeat(200) + "["
         };
         for (String text : early) {
             EDGE.wrong(2, text.length(), text);

@@ -48,11 +48,16 @@ final class ManyEdgeTest {
     /** Each KIND with a text that has two nodes of it. */
     private static void eachKind() {
         String[] texts = {
-            "1 {}{}", "2 var a;var b", "3 var a,b", "4 ;;", "5 a;b", "6 if(a)if(b);", "7 do do;while(a);while(b)", "8 while(a)while(b);", "9 for(;;)for(;;);",
-            "10 for(a in b)for(c in d);", "11 for(;;){continue;continue}", "12 for(;;){break;break}", "13 function f(){return;return}", "14 switch(a){}switch(b){}",
-            "15 switch(a){case b:default:}", "16 a:b:;", "17 throw a;throw b", "18 try{}finally{}try{}finally{}", "19 try{}catch(a){}try{}catch(b){}",
-            "20 function f(){}function g(){}", "21 [,,]", "22 function f(a,b){}", "23 function f(){}function g(){}", "30 this+this", "31 a+b", "32 null+true", "33 1+2",
-            "34 'a'+'b'", "35 /a/+/b/", "36 [[]]", "37 ({a:{}})", "38 ({a:1,b:2})", "39 (function(){}+function(){})", "40 a[b[c]]", "41 a.b.c", "42 new new a", "43 a(b())",
+            "1 {}{}", "2 var a;var b", "3 var a,b", "4 ;;", "5 a;b", "6 if(a)if(b);", "7 do do;while(a);while(b)", "8 while(a)while(b);",
+            "9 for(;;)for(;;);",
+            "10 for(a in b)for(c in d);", "11 for(;;){continue;continue}", "12 for(;;){break;break}", "13 function f(){return;return}",
+            "14 switch(a){}switch(b){}",
+            "15 switch(a){case b:default:}", "16 a:b:;", "17 throw a;throw b", "18 try{}finally{}try{}finally{}",
+            "19 try{}catch(a){}try{}catch(b){}",
+            "20 function f(){}function g(){}", "21 [,,]", "22 function f(a,b){}", "23 function f(){}function g(){}", "30 this+this",
+            "31 a+b", "32 null+true", "33 1+2",
+            "34 'a'+'b'", "35 /a/+/b/", "36 [[]]", "37 ({a:{}})", "38 ({a:1,b:2})", "39 (function(){}+function(){})", "40 a[b[c]]",
+            "41 a.b.c", "42 new new a", "43 a(b())",
             "44 a++ +b++", "45 - -a", "46 a+b+c", "47 a?b:c?d:e", "48 a=b=c", "49 a,(b,c)"
         };
         for (String text : texts) {

@@ -98,7 +98,8 @@ final class NodeEdgeTest {
     private static void is(String text, int k, String kindPlaceLength) {
         ScriptFront front = new ScriptFront();
         Probe.parsed(front, text);
-        EDGE.due("node " + k + " of " + text, Edge.node(front, k, 0) + " " + Edge.node(front, k, 1) + " " + Edge.node(front, k, 2), kindPlaceLength);
+        EDGE.due("node " + k + " of " + text, Edge.node(front, k, 0) + " " + Edge.node(front, k, 1) + " " + Edge.node(front, k, 2),
+            kindPlaceLength);
     }
 
     private static void placesWithLength() {

@@ -33,7 +33,8 @@ final class ParseEdgeTest {
 
     private static void emptyText() {
         EDGE.sentence("how many nodes its tree has");
-        String[] empty = {"", " ", "\t", "\n", "\r", "\r\n", "//", "/**/", " //a\n/*b*/\t", " ".repeat(480), "\n".repeat(480), "//" + "a".repeat(478)};
+        String[] empty = {"", " ", "\t", "\n", "\r", "\r\n", "//", "/**/", " //a\n/*b*/\t", " ".repeat(480), "\n".repeat(480),
+            "//" + "a".repeat(478)};
         for (String text : empty) {
             ScriptFront front = new ScriptFront();
             EDGE.due("nodes of an empty text", Probe.parsed(front, text), "1");

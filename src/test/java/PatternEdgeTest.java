@@ -19,11 +19,16 @@ final class PatternEdgeTest {
     private static void whereAnOperandIsDue() {
         EDGE.sentence("PATTERNS: where an operand is due and a / or /= would be next");
         String[] ahead = {
-            "", ";", "{}", "{", "a;", "a:", "(", "[", "[a,", "[,", "a(", "a(b,", "a[", "a=", "a/=", "a,", "a+", "a/ ", "a&&", "a?", "a?b:", "!",
-            "typeof ", "++", "a\n++", "new ", "({a:", "var a=", "if(", "if(a)", "if(a);else ", "do ", "do;while(", "do;while(a)\n", "do;while(a);",
-            "while(", "while(a)", "for(", "for(;", "for(;;", "for(;;)", "for(var a=", "for(a in ", "for(a in b)", "switch(", "switch(a){case ",
-            "switch(a){case b:", "switch(a){default:", "throw ", "try{", "try{}catch(e){", "try{}finally{", "try{}finally{}", "function f(){",
-            "function f(){}", "(function(){return ", "(function(){return\n", "a in ", "a instanceof ", "if(a){}", "var a\n", "break\n", "continue a\n"
+            "", ";", "{}", "{", "a;", "a:", "(", "[", "[a,", "[,", "a(", "a(b,", "a[", "a=", "a/=", "a,", "a+", "a/ ", "a&&", "a?",
+            "a?b:", "!",
+            "typeof ", "++", "a\n++", "new ", "({a:", "var a=", "if(", "if(a)", "if(a);else ", "do ", "do;while(", "do;while(a)\n",
+            "do;while(a);",
+            "while(", "while(a)", "for(", "for(;", "for(;;", "for(;;)", "for(var a=", "for(a in ", "for(a in b)", "switch(",
+            "switch(a){case ",
+            "switch(a){case b:", "switch(a){default:", "throw ", "try{", "try{}catch(e){", "try{}finally{", "try{}finally{}",
+            "function f(){",
+            "function f(){}", "(function(){return ", "(function(){return\n", "a in ", "a instanceof ", "if(a){}", "var a\n", "break\n",
+            "continue a\n"
         };
         for (String text : ahead) {
             EDGE.wrong(1, text.length(), text + "/b", text + "/=b", text + "/b\n/", text + "/=\n/");
@@ -38,7 +43,8 @@ final class PatternEdgeTest {
     private static void whereASignIsDue() {
         EDGE.sentence("PATTERNS: where an operand is due and a / or /= would be next");
         String[] operands = {
-            "a", "this", "null", "1", "'a'", "/a/g", "[]", "({})", "(a)", "a()", "a[b]", "a.b", "a.if", "new a", "new a()", "a\n", "(a)\n", "a/**/", "(function(){})"
+            "a", "this", "null", "1", "'a'", "/a/g", "[]", "({})", "(a)", "a()", "a[b]", "a.b", "a.if", "new a", "new a()", "a\n",
+            "(a)\n", "a/**/", "(function(){})"
         };
         for (String text : operands) {
             String signed = Probe.tree(text + "+b+g");
@@ -56,7 +62,8 @@ final class PatternEdgeTest {
     private static void whereNeitherIsDue() {
         EDGE.sentence("2 SYNTAX: the first token that can't stand there");
         String[] ahead = {
-            "var ", "break ", "for(;;)continue ", "a.", "({", "({a:b,", "function ", "function f(", "try ", "try{}", "try{}catch(", "switch(a){", "switch(a)", "for", "if",
+            "var ", "break ", "for(;;)continue ", "a.", "({", "({a:b,", "function ", "function f(", "try ", "try{}", "try{}catch(",
+            "switch(a){", "switch(a)", "for", "if",
             "do;while(a)", "var a", "function f()", "throw a;try{}catch(e)"
         };
         for (String text : ahead) {

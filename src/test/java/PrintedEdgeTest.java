@@ -92,9 +92,12 @@ final class PrintedEdgeTest {
 
     private static void nameBehindName() {
         EDGE.sentence("but one between two, if the second one begins with a name character and the first one ends with one");
-        EDGE.same("a in b;", "a instanceof b;", "typeof a;", "void 0;", "delete a.b;", "new a();", "throw a;", "var a;", "do a;while(b);", "if(a);else b;", "if(a);else if(b);");
-        EDGE.same("a:for(;;)break a;", "a:for(;;)continue a;", "switch(a){case b:case 1:}", "function f(){return a;}", "(function f(){});", "typeof typeof a;", "a in typeof b;");
-        EDGE.same("'a'in b;", "a in'b';", "[]in a;", "typeof'a';", "typeof-a;", "typeof[];", "typeof{};", "throw-a;", "case_;", "if(a);else;", "if(a);else{}", "do;while(a);", "do{}while(a);");
+        EDGE.same("a in b;", "a instanceof b;", "typeof a;", "void 0;", "delete a.b;", "new a();", "throw a;", "var a;", "do a;while(b);",
+            "if(a);else b;", "if(a);else if(b);");
+        EDGE.same("a:for(;;)break a;", "a:for(;;)continue a;", "switch(a){case b:case 1:}", "function f(){return a;}",
+            "(function f(){});", "typeof typeof a;", "a in typeof b;");
+        EDGE.same("'a'in b;", "a in'b';", "[]in a;", "typeof'a';", "typeof-a;", "typeof[];", "typeof{};", "throw-a;", "case_;",
+            "if(a);else;", "if(a);else{}", "do;while(a);", "do{}while(a);");
         EDGE.prints("return_ in $a", "return_ in $a;");
         EDGE.prints("a in .5", "a in.5;");
         EDGE.prints("function f(){return .5}", "function f(){return.5;}");
@@ -109,8 +112,10 @@ final class PrintedEdgeTest {
 
     private static void nameBehindNumberOrPattern() {
         EDGE.sentence("or is a NUMBER or PATTERN");
-        EDGE.same("1 in a;", "1. in a;", ".5 in a;", "1e5 in a;", "0x1 in a;", "1. instanceof a;", "/a/ in b;", "/a/g in b;", "/a/ instanceof b;", "for(var a=1. in b);", "for(var a=/b/ in c);");
-        EDGE.same("'a'in b;", "1.+a;", "/a/+b;", "/a/.b;", "1.[a];", "[1.]in a;", "[/a/]in b;", "a?1.:b;", "a?/b/:c;", "({1:a});", "({1.:a});");
+        EDGE.same("1 in a;", "1. in a;", ".5 in a;", "1e5 in a;", "0x1 in a;", "1. instanceof a;", "/a/ in b;", "/a/g in b;",
+            "/a/ instanceof b;", "for(var a=1. in b);", "for(var a=/b/ in c);");
+        EDGE.same("'a'in b;", "1.+a;", "/a/+b;", "/a/.b;", "1.[a];", "[1.]in a;", "[/a/]in b;", "a?1.:b;", "a?/b/:c;", "({1:a});",
+            "({1.:a});");
         EDGE.prints("(1.,2)", "1.,2;");
         EDGE.prints("if(1.)a", "if(1.)a;");
         EDGE.prints("if(/a/)b", "if(/a/)b;");
@@ -121,8 +126,10 @@ final class PrintedEdgeTest {
         EDGE.same("a+ +b;", "a+ ++b;", "a++ +b;", "a++ + ++b;", "+ +a;", "+ ++a;", "a+ + +b;");
         EDGE.same("a- -b;", "a- --b;", "a-- -b;", "a-- - --b;", "- -a;", "- --a;", "a- - -b;");
         EDGE.same("a+-b;", "a-+b;", "a+--b;", "a-++b;", "a++-b;", "a--+b;", "+-a;", "-+a;", "-++a;", "+--a;", "~-a;", "!+a;", "!--a;");
-        EDGE.same("a/ /b/;", "/a/ /b;", "/a/ / /b/;", "a/ /=/;", "/a/g/b;", "/a/g/ /b/;", "a*/b/;", "/a/*b;", "a=/b/;", "a/b/c;", "a/=b;", "a/=/b/;");
-        EDGE.same("a<!--b;", "a-->b;", "a*+b;", "a%-b;", "a&&b;", "a&b;", "a<b;", "a=-b;", "a=+b;", "a+=+b;", "a-=-b;", "a=!b;", "a==!b;", "a+(b+c);", "a-(-b-c);", "'+'+'+';");
+        EDGE.same("a/ /b/;", "/a/ /b;", "/a/ / /b/;", "a/ /=/;", "/a/g/b;", "/a/g/ /b/;", "a*/b/;", "/a/*b;", "a=/b/;", "a/b/c;", "a/=b;",
+            "a/=/b/;");
+        EDGE.same("a<!--b;", "a-->b;", "a*+b;", "a%-b;", "a&&b;", "a&b;", "a<b;", "a=-b;", "a=+b;", "a+=+b;", "a-=-b;", "a=!b;", "a==!b;",
+            "a+(b+c);", "a-(-b-c);", "'+'+'+';");
     }
 
     private static void allSemicolons() {
@@ -136,7 +143,8 @@ final class PrintedEdgeTest {
         EDGE.prints("function f(){return}", "function f(){return;}");
         EDGE.prints("throw a", "throw a;");
         EDGE.same(";", ";;", "{;}", "for(;;);", "a:;");
-        EDGE.same("{}", "if(a){}", "while(a){}", "for(;;){}", "for(a in b){}", "switch(a){}", "a:{}", "try{}finally{}", "function f(){}", "for(var a;;){}", "for(var a in b){}");
+        EDGE.same("{}", "if(a){}", "while(a){}", "for(;;){}", "for(a in b){}", "switch(a){}", "a:{}", "try{}finally{}", "function f(){}",
+            "for(var a;;){}", "for(var a in b){}");
         EDGE.prints("{a}b", "{a;}b;");
         EDGE.prints("if(a)b\nelse c", "if(a)b;else c;");
         EDGE.prints("for(;;)var a", "for(;;)var a;");
@@ -172,7 +180,8 @@ final class PrintedEdgeTest {
         }
         EDGE.same("(a||b)*c;", "a*(b||c);", "(a?b:c)||d;", "a||(b?c:d);", "(a=b)||c;", "a||(b=c);", "(a,b)||c;", "a||(b,c);");
         EDGE.same("-(a*b);", "!(a||b);", "!(a?b:c);", "!(a=b);", "!(a,b);", "typeof(a+b);", "(a?b:c)?d:e;", "(a=b)?c:d;", "(a,b)?c:d;");
-        EDGE.same("(-a).b;", "(-a)[b];", "(-a)();", "(a++).b;", "(a*b).c;", "(a?b:c).d;", "(a=b).c;", "(a,b).c;", "(a,b)[c];", "(a,b)(c);", "(!a)();", "(a++)();");
+        EDGE.same("(-a).b;", "(-a)[b];", "(-a)();", "(a++).b;", "(a*b).c;", "(a?b:c).d;", "(a=b).c;", "(a,b).c;", "(a,b)[c];",
+            "(a,b)(c);", "(!a)();", "(a++)();");
         EDGE.prints("(a||b)?c:d", "a||b?c:d;");
         EDGE.prints("a?(b||c):(d||e)", "a?b||c:d||e;");
         EDGE.prints("a=(b||c)", "a=b||c;");
@@ -207,9 +216,12 @@ final class PrintedEdgeTest {
 
     private static void everyPlaceOfAnX() {
         EDGE.sentence("Brackets stand round a node where it would not be read so without (..); nowhere else");
-        EDGE.same("a=(b,c);", "var a=(b,c);", "a((b,c));", "a(b,(c,d));", "new a((b,c));", "[(a,b)];", "[a,(b,c)];", "({a:(b,c)});", "a?(b,c):d;", "a?b:(c,d);", "(a,b),c;", "a,(b,c);");
-        EDGE.same("a,b;", "a[b,c];", "if(a,b);", "while(a,b);", "do;while(a,b);", "for(a,b;c,d;e,f);", "for(a in b,c);", "switch(a,b){case c,d:}", "throw a,b;", "function f(){return a,b;}");
-        EDGE.same("a=b?c:d;", "var a=b=c;", "a(b=c);", "a(b?c:d);", "[a=b];", "({a:b=c});", "a?b=c:d=e;", "a=b,c=d;", "a[b=c];", "if(a=b);", "throw a=b;");
+        EDGE.same("a=(b,c);", "var a=(b,c);", "a((b,c));", "a(b,(c,d));", "new a((b,c));", "[(a,b)];", "[a,(b,c)];", "({a:(b,c)});",
+            "a?(b,c):d;", "a?b:(c,d);", "(a,b),c;", "a,(b,c);");
+        EDGE.same("a,b;", "a[b,c];", "if(a,b);", "while(a,b);", "do;while(a,b);", "for(a,b;c,d;e,f);", "for(a in b,c);",
+            "switch(a,b){case c,d:}", "throw a,b;", "function f(){return a,b;}");
+        EDGE.same("a=b?c:d;", "var a=b=c;", "a(b=c);", "a(b?c:d);", "[a=b];", "({a:b=c});", "a?b=c:d=e;", "a=b,c=d;", "a[b=c];",
+            "if(a=b);", "throw a=b;");
         EDGE.prints("if((a,b))c", "if(a,b)c;");
         EDGE.prints("a[(b,c)]", "a[b,c];");
         EDGE.prints("throw(a,b)", "throw a,b;");
@@ -222,8 +234,10 @@ final class PrintedEdgeTest {
 
     private static void membersOfNew() {
         EDGE.sentence("the MEMBER of new, if it has a call outside brackets");
-        EDGE.same("new(a())();", "new(a().b)();", "new(a()[b])();", "new(a.b())();", "new(a()())();", "new(a().b.c)(d);", "new(new a().b())();", "new(function(){}())();");
-        EDGE.same("new a[b()]();", "new a[b()].c();", "new[a()]();", "new function(){a();}();", "new(a()+b)();", "new(a()+b).c();", "new(-a())();", "new a(b());", "new(a,b())();");
+        EDGE.same("new(a())();", "new(a().b)();", "new(a()[b])();", "new(a.b())();", "new(a()())();", "new(a().b.c)(d);",
+            "new(new a().b())();", "new(function(){}())();");
+        EDGE.same("new a[b()]();", "new a[b()].c();", "new[a()]();", "new function(){a();}();", "new(a()+b)();", "new(a()+b).c();",
+            "new(-a())();", "new a(b());", "new(a,b())();");
         EDGE.prints("new (a())[b]", "new(a()[b])();");
         EDGE.prints("new (a()).b", "new(a().b)();");
         EDGE.prints("new (a.b)", "new a.b();");
@@ -235,10 +249,14 @@ final class PrintedEdgeTest {
 
     private static void inOfAFor() {
         EDGE.sentence("in in the first part of a for, round that 46");
-        EDGE.same("for((a in b);;);", "for(a=(b in c);;);", "for(var a=(b in c);;);", "for(var a=(b in c)in d);", "for(a,(b in c);;);", "for(a?(b in c):(d in e);;);", "for(a||(b in c);;);");
-        EDGE.same("for(-(a in b);;);", "for((a in b)==c;;);", "for(a==(b in c);;);", "for((a in b).c;;);", "for((a in b in c);;);", "for(var a,b=(c in d);;);");
-        EDGE.same("for(a[b in c];;);", "for(a(b in c);;);", "for(new a(b in c);;);", "for([a in b];;);", "for({a:b in c};;);", "for(a=function(){b in c;};;);", "for((a,b in c).d;;);", "for(a[b in c]in d);");
-        EDGE.same("for(;a in b;);", "for(;;a in b);", "for(a in b in c);", "for(;;)a in b;", "for(var a in b)c in d;", "a in b;", "for(a instanceof b;;);", "for(a<b;;);");
+        EDGE.same("for((a in b);;);", "for(a=(b in c);;);", "for(var a=(b in c);;);", "for(var a=(b in c)in d);", "for(a,(b in c);;);",
+            "for(a?(b in c):(d in e);;);", "for(a||(b in c);;);");
+        EDGE.same("for(-(a in b);;);", "for((a in b)==c;;);", "for(a==(b in c);;);", "for((a in b).c;;);", "for((a in b in c);;);",
+            "for(var a,b=(c in d);;);");
+        EDGE.same("for(a[b in c];;);", "for(a(b in c);;);", "for(new a(b in c);;);", "for([a in b];;);", "for({a:b in c};;);",
+            "for(a=function(){b in c;};;);", "for((a,b in c).d;;);", "for(a[b in c]in d);");
+        EDGE.same("for(;a in b;);", "for(;;a in b);", "for(a in b in c);", "for(;;)a in b;", "for(var a in b)c in d;", "a in b;",
+            "for(a instanceof b;;);", "for(a<b;;);");
         EDGE.prints("for(;(a in b););", "for(;a in b;);");
         EDGE.prints("for(a[(b in c)];;);", "for(a[b in c];;);");
         EDGE.prints("for((a instanceof b);;);", "for(a instanceof b;;);");
@@ -261,20 +279,23 @@ final class PrintedEdgeTest {
 
     private static void firstTokenOfAStatement() {
         EDGE.sentence("round the X of a 5 whose first token would be { or function");
-        EDGE.same("({});", "({a:b});", "(function(){});", "(function f(){});", "({}.a);", "({}[a]);", "({}());", "({}+a);", "({}?a:b);", "({},a);", "({}.a=b);", "({}.a++);", "(function(){}());");
+        EDGE.same("({});", "({a:b});", "(function(){});", "(function f(){});", "({}.a);", "({}[a]);", "({}());", "({}+a);", "({}?a:b);",
+            "({},a);", "({}.a=b);", "({}.a++);", "(function(){}());");
         EDGE.prints("(function(){})()", "(function(){}());");
         EDGE.prints("({}).a", "({}.a);");
         EDGE.prints("({}),a", "({},a);");
         EDGE.prints("(({})+a)*b", "({}+a)*b;");
         EDGE.prints("({},a).b", "({},a).b;");
         EDGE.same("{({});}", "if(a)({});", "a:({});", "for(;;)({});", "switch(a){case b:({});}", "function f(){({});}");
-        EDGE.same("-{};", "!function(){};", "a={};", "[{}];", "a({});", "new{}();", "typeof{};", "a=function(){};", "a,{};", "a+{};", "throw{};", "var a={};", "if({});", "for({};;);", "function f(){return{};}");
+        EDGE.same("-{};", "!function(){};", "a={};", "[{}];", "a({});", "new{}();", "typeof{};", "a=function(){};", "a,{};", "a+{};",
+            "throw{};", "var a={};", "if({});", "for({};;);", "function f(){return{};}");
         EDGE.same("for(function(){};;);", "while({});", "switch({}){case{}:}", "for(a in{});", "[function(){}];");
     }
 
     private static void stringsInBrackets() {
         EDGE.sentence("and round a STRING alone in a 5 that had brackets; nowhere else");
-        EDGE.same("('a');", "'a';", "('use strict');", "'use strict';", "'a';('b');'c';", "{('a');}", "a:('b');", "function f(){('a');'b';}", "a;('b');");
+        EDGE.same("('a');", "'a';", "('use strict');", "'use strict';", "'a';('b');'c';", "{('a');}", "a:('b');",
+            "function f(){('a');'b';}", "a;('b');");
         EDGE.prints("(('a'))", "('a');");
         EDGE.prints("( \"a\" )", "(\"a\");");
         EDGE.prints("('a')+b", "'a'+b;");

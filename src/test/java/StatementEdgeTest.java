@@ -115,7 +115,8 @@ final class StatementEdgeTest {
         for (int i = 0; i < firsts.length; i++) {
             for (int j = 0; j < others.length; j++) {
                 for (int k = 0; k < others.length; k++) {
-                    EDGE.tree("for(" + firsts[i] + ";" + others[j] + ";" + others[k] + ");", "0[9[" + firstTrees[i] + " " + otherTrees[j] + " " + otherTrees[k] + " 4]]");
+                    EDGE.tree("for(" + firsts[i] + ";" + others[j] + ";" + others[k] + ");",
+                        "0[9[" + firstTrees[i] + " " + otherTrees[j] + " " + otherTrees[k] + " 4]]");
                 }
             }
         }
@@ -159,7 +160,8 @@ final class StatementEdgeTest {
             EDGE.tree("a:for(;;){" + words[i] + "/*\r*/a;}", "0[16[9[21 21 21 1[" + kind + " 5[31]]]]]");
             EDGE.tree("a:for(;;){" + words[i] + "/**/a\n}", "0[16[9[21 21 21 1[" + kind + "]]]]");
             int behind = 8 + words[i].length();
-            EDGE.wrong(2, behind, "for(;;)" + words[i] + " 1", "for(;;)" + words[i] + " if", "for(;;)" + words[i] + " 'a'", "for(;;)" + words[i] + " (a)");
+            EDGE.wrong(2, behind, "for(;;)" + words[i] + " 1", "for(;;)" + words[i] + " if", "for(;;)" + words[i] + " 'a'",
+                "for(;;)" + words[i] + " (a)");
             EDGE.wrong(2, behind + 2, "for(;;)" + words[i] + " a b");
             EDGE.wrong(2, behind + 1, "for(;;)" + words[i] + " a.b", "for(;;)" + words[i] + " a,b");
         }
@@ -167,7 +169,8 @@ final class StatementEdgeTest {
 
     private static void returns() {
         EDGE.sentence("return, perhaps X beginning in the same line ; (13 [X or none])");
-        String[] texts = {"return;", "return", "return a", "return a,b;", "return\na", "return/*\n*/a", "return/**/a", "return(\na)", "return a\n+b", "return\n;"};
+        String[] texts = {"return;", "return", "return a", "return a,b;", "return\na", "return/*\n*/a", "return/**/a", "return(\na)",
+            "return a\n+b", "return\n;"};
         String[] trees = {"13", "13", "13[31]", "13[49[31 31]]", "13 5[31]", "13 5[31]", "13[31]", "13[31]", "13[46[31 31]]", "13"};
         for (int i = 0; i < texts.length; i++) {
             EDGE.tree("function f(){" + texts[i] + "}", "0[20[23[" + trees[i] + "]]]");
@@ -266,7 +269,8 @@ final class StatementEdgeTest {
     }
 
     /** Statements that a ; must end, each as it stands within a loop that is within a function. */
-    private static final String[] ENDED = {"a", "var a", "do;while(a)", "continue", "break", "continue x", "break x", "return", "return a", "throw a"};
+    private static final String[] ENDED = {"a", "var a", "do;while(a)", "continue", "break", "continue x", "break x", "return",
+        "return a", "throw a"};
 
     private static void semicolonsPutIn() {
         EDGE.sentence("where a ; must end a statement (5, 2, 7, 11, 12, 13, 17) and another token is next, it is put in");
@@ -287,8 +291,10 @@ final class StatementEdgeTest {
 
     private static void semicolonsNotPutIn() {
         EDGE.sentence("and another token is next, it is put in, if a line end lies ahead of that token, or it is }, or the text ends");
-        EDGE.put(0, "", ";", "{}", "if(a);", "if(a){}else{}", "while(a){}", "for(;;){}", "for(a in b){}", "switch(a){}", "a:{}", "try{}finally{}", "function f(){}");
-        EDGE.put(1, "a\n+b", "a\n(b)", "a\n[b]", "a\n.b", "a\n,b", "a\n=b", "a\n?b\n:c", "a\nin b", "a\n/b/c", "a\n*b", "var a\n=b", "var a\n,b");
+        EDGE.put(0, "", ";", "{}", "if(a);", "if(a){}else{}", "while(a){}", "for(;;){}", "for(a in b){}", "switch(a){}", "a:{}",
+            "try{}finally{}", "function f(){}");
+        EDGE.put(1, "a\n+b", "a\n(b)", "a\n[b]", "a\n.b", "a\n,b", "a\n=b", "a\n?b\n:c", "a\nin b", "a\n/b/c", "a\n*b", "var a\n=b",
+            "var a\n,b");
         EDGE.put(2, "a\n!b", "a\n~b", "a\n++b", "a\n{}b", "a\nthis", "a\n'b'", "a\n1", "if(a)b\nelse c");
         EDGE.wrong(2, 2, "a b", "a 1", "a 'b'", "a {}", "a !b", "a if(b);");
         EDGE.wrong(2, 7, "if(a)b else c");

@@ -203,7 +203,8 @@ final class TokenEdgeTest {
         }
         EDGE.due("\\ and 13 10", Probe.column("'\\\r\n'", 2), "0 0 5");
         EDGE.due("\\ and 13 10 with a behind it", Probe.column("'\\\r\na'", 2), "0 0 6");
-        EDGE.wrong(1, 0, "'\\\n\r'", "'\\\r\r'", "'\\\n\n'", "'\\\r\n\n'", "'\\\r\n\r'", "'\\'", "'\\\\\\'", "'\\", "\"\\\"", "'\\\r\n", "'\\\r");
+        EDGE.wrong(1, 0, "'\\\n\r'", "'\\\r\r'", "'\\\n\n'", "'\\\r\n\n'", "'\\\r\n\r'", "'\\'", "'\\\\\\'", "'\\", "\"\\\"", "'\\\r\n",
+            "'\\\r");
         EDGE.fine("'\\\\'", "'\\''", "\"\\\"\"", "'\\\\\\''", "'\\\n\\\r'", "'\\\r\\\n'");
     }
 
@@ -241,9 +242,11 @@ final class TokenEdgeTest {
         for (String word : all.split(" ")) {
             String upper = word.substring(0, 1).toUpperCase() + word.substring(1);
             EDGE.wrong(2, 4, "var " + word);
-            EDGE.fine("var " + word + "a", "var " + word + "1", "var " + word + "$", "var _" + word, "var " + upper, "a." + word, "({" + word + ":a})");
+            EDGE.fine("var " + word + "a", "var " + word + "1", "var " + word + "$", "var _" + word, "var " + upper, "a." + word,
+                "({" + word + ":a})");
             EDGE.due("var with " + word + " without its last letter", Probe.outcome("var " + word.substring(0, word.length() - 1)), "fine");
         }
-        EDGE.fine("var with", "var class", "var let", "var eval", "var arguments", "var undefined", "var get", "var debugger", "var const", "var NaN");
+        EDGE.fine("var with", "var class", "var let", "var eval", "var arguments", "var undefined", "var get", "var debugger",
+            "var const", "var NaN");
     }
 }

@@ -33,7 +33,8 @@ final class TreeFaultEdgeTest {
     private static void targets() {
         EDGE.sentence("4 TARGET: of 44, 45 with ++ or --, 48, 10 (not var) it must be 31, 40 or 41: the node's place");
         for (String target : "a (a) a.b a[b] (a.b) ((a[b])) a().b new(a)().b this.a 'a'.b [].a".split(" ")) {
-            EDGE.fine(target + "++", target + "--", "++" + target, "--" + target, target + "=c", target + ">>>=c", "for(" + target + " in c);");
+            EDGE.fine(target + "++", target + "--", "++" + target, "--" + target, target + "=c", target + ">>>=c",
+                "for(" + target + " in c);");
         }
         for (String other : "1 'a' /a/ this null true a() (a,b) (a+b) (-a) (a=b) (a++) (a?b:c) [] [a] new(a) new(a)() (function(){})".split(" ")) {
             EDGE.wrong(4, other.length(), other + "++", other + "--", other + "=c", other + "/=c");
@@ -56,10 +57,13 @@ final class TreeFaultEdgeTest {
             strictly(name.length(), name + "*=1");
             strictly(name.length() + 2, "(" + name + ")=1");
             strictly(0, "for(" + name + " in a);");
-            EDGE.fine(STRICT + name, STRICT + "-" + name, STRICT + name + "()", STRICT + "a=" + name, STRICT + name + ".a=1", STRICT + name + "[0]++", STRICT + "a." + name + "=1");
-            EDGE.fine(STRICT + "for(a in " + name + ");", STRICT + name + ":;", STRICT + "({" + name + ":1})", STRICT + "typeof " + name, STRICT + "for(" + name + ".a in b);");
+            EDGE.fine(STRICT + name, STRICT + "-" + name, STRICT + name + "()", STRICT + "a=" + name, STRICT + name + ".a=1",
+                STRICT + name + "[0]++", STRICT + "a." + name + "=1");
+            EDGE.fine(STRICT + "for(a in " + name + ");", STRICT + name + ":;", STRICT + "({" + name + ":1})", STRICT + "typeof " + name,
+                STRICT + "for(" + name + ".a in b);");
         }
-        EDGE.fine(STRICT + "eva=1", STRICT + "evals=1", STRICT + "Eval=1", STRICT + "argument=1", STRICT + "argumentss=1", STRICT + "evam=1", STRICT + "argumentz=1");
+        EDGE.fine(STRICT + "eva=1", STRICT + "evals=1", STRICT + "Eval=1", STRICT + "argument=1", STRICT + "argumentss=1",
+            STRICT + "evam=1", STRICT + "argumentz=1");
     }
 
     private static void guardedNames() {
@@ -76,7 +80,8 @@ final class TreeFaultEdgeTest {
             strictly(9, "function " + name + "(){}");
             strictly(10, "(function " + name + "(){})");
         }
-        EDGE.fine(STRICT + "var evals", STRICT + "function eva(argument){}", STRICT + "try{}catch(evil){}", STRICT + "(function argumentz(){})");
+        EDGE.fine(STRICT + "var evals", STRICT + "function eva(argument){}", STRICT + "try{}catch(evil){}",
+            STRICT + "(function argumentz(){})");
     }
 
     private static void deletedNames() {
@@ -84,7 +89,8 @@ final class TreeFaultEdgeTest {
         strictly(0, "delete a");
         strictly(0, "delete(a)");
         strictly(1, "!delete a");
-        EDGE.fine(STRICT + "delete a.b", STRICT + "delete a[b]", STRICT + "delete a()", STRICT + "delete 1", STRICT + "delete this", STRICT + "delete(a,b)", STRICT + "delete-a");
+        EDGE.fine(STRICT + "delete a.b", STRICT + "delete a[b]", STRICT + "delete a()", STRICT + "delete 1", STRICT + "delete this",
+            STRICT + "delete(a,b)", STRICT + "delete-a");
         EDGE.fine(STRICT + "typeof a", STRICT + "void a", STRICT + "!a", STRICT + "++a");
     }
 
@@ -94,7 +100,8 @@ final class TreeFaultEdgeTest {
         strictly(15, "function f(a,b,a){}");
         strictly(15, "function f(a,b,b,a){}");
         strictly(12, "(function(a,a){})");
-        EDGE.fine(STRICT + "function f(a,b){}", STRICT + "function f(a,A){}", STRICT + "function f(a,aa){}", STRICT + "function f(aa,a){}", STRICT + "function f(a){}function g(a){}");
+        EDGE.fine(STRICT + "function f(a,b){}", STRICT + "function f(a,A){}", STRICT + "function f(a,aa){}",
+            STRICT + "function f(aa,a){}", STRICT + "function f(a){}function g(a){}");
         EDGE.fine(STRICT + "function f(f){}", STRICT + "function f(a){function g(a){}}", STRICT + "function f(a){var a}");
     }
 
@@ -107,15 +114,18 @@ final class TreeFaultEdgeTest {
         strictly(7, "({if:1,if:2})");
         strictly(10, "({a:{b:1},a:1})");
         strictly(9, "({a:{b:1,b:2},a:1})");
-        EDGE.fine(STRICT + "({a:1,'a':2})", STRICT + "({'a':1,\"a\":2})", STRICT + "({1:1,1.0:2})", STRICT + "({1:1,0x1:2})", STRICT + "({1:1,'1':2})", STRICT + "({a:1,aa:2})");
-        EDGE.fine(STRICT + "({a:{a:1}})", STRICT + "({a:1});({a:1})", STRICT + "({a:{b:1},b:2})", STRICT + "[{a:1},{a:1}]", STRICT + "({a:1,b:{a:1}})", STRICT + "({a:1,A:2})");
+        EDGE.fine(STRICT + "({a:1,'a':2})", STRICT + "({'a':1,\"a\":2})", STRICT + "({1:1,1.0:2})", STRICT + "({1:1,0x1:2})",
+            STRICT + "({1:1,'1':2})", STRICT + "({a:1,aa:2})");
+        EDGE.fine(STRICT + "({a:{a:1}})", STRICT + "({a:1});({a:1})", STRICT + "({a:{b:1},b:2})", STRICT + "[{a:1},{a:1}]",
+            STRICT + "({a:1,b:{a:1}})", STRICT + "({a:1,A:2})");
     }
 
     private static void firstStatements() {
         EDGE.sentence("or if one of its first statements, which are all (5 [34]) not in brackets, is 'use strict' or \"use strict\"");
         String wrong = "delete x";
         String[] strict = {
-            "'use strict';", "\"use strict\";", "'use strict'\n", " 'use strict' ;", "'a';'use strict';", "'a'\n\"b\"\n'use strict'\n", "'use strict';'a';", "'';'use strict';",
+            "'use strict';", "\"use strict\";", "'use strict'\n", " 'use strict' ;", "'a';'use strict';", "'a'\n\"b\"\n'use strict'\n",
+            "'use strict';'a';", "'';'use strict';",
             "'Use Strict';'use strict';", "/**/'use strict';", "'a';".repeat(80) + "'use strict';", "'use\\x20strict';'use strict';"
         };
         for (String ahead : strict) {
@@ -124,9 +134,12 @@ final class TreeFaultEdgeTest {
             EDGE.fine(ahead + "delete x.y", "function f(){" + ahead + "}" + wrong);
         }
         String[] sloppy = {
-            "", "('use strict');", "(('use strict'));", "a;'use strict';", ";'use strict';", "{'use strict'}", "'use strict'.a;", "'use strict'+a;", "'use strict',a;", "-'use strict';",
-            "a='use strict';", "a:'use strict';", "if(a)'use strict';", "var a;'use strict';", "function f(){}'use strict';", "('a');'use strict';", "1;'use strict';", "'use  strict';",
-            "'use strict ';", "' use strict';", "'Use strict';", "'use\\x20strict';", "'use strict\\\n';", "'use strick';", "'use stric';", "'use\tstrict';", "'a'+b;'use strict';", "'use strict'();",
+            "", "('use strict');", "(('use strict'));", "a;'use strict';", ";'use strict';", "{'use strict'}", "'use strict'.a;",
+            "'use strict'+a;", "'use strict',a;", "-'use strict';",
+            "a='use strict';", "a:'use strict';", "if(a)'use strict';", "var a;'use strict';", "function f(){}'use strict';",
+            "('a');'use strict';", "1;'use strict';", "'use  strict';",
+            "'use strict ';", "' use strict';", "'Use strict';", "'use\\x20strict';", "'use strict\\\n';", "'use strick';",
+            "'use stric';", "'use\tstrict';", "'a'+b;'use strict';", "'use strict'();",
             "'use strict'[a];", "'use strict'?a:b;", "['use strict'];", "throw'use strict';"
         };
         for (String ahead : sloppy) {
@@ -142,7 +155,8 @@ final class TreeFaultEdgeTest {
         EDGE.wrong(5, 39, STRICT + "function f(){function g(){delete a}}");
         EDGE.wrong(5, 39, "function f(){" + STRICT + "function g(){delete a}}");
         EDGE.wrong(5, 14, STRICT + "{delete a}");
-        EDGE.fine("function f(){" + STRICT + "}delete a", "function f(){" + STRICT + "}function g(){delete a}", "(function(){" + STRICT + "},delete a)");
+        EDGE.fine("function f(){" + STRICT + "}delete a", "function f(){" + STRICT + "}function g(){delete a}",
+            "(function(){" + STRICT + "},delete a)");
         EDGE.fine("function f(){function g(){" + STRICT + "}delete a}");
     }
 
@@ -153,7 +167,8 @@ final class TreeFaultEdgeTest {
         EDGE.wrong(5, 11, "function f(eval){" + STRICT + "}");
         EDGE.wrong(5, 13, "function f(a,a){" + STRICT + "}");
         EDGE.wrong(5, 9, "function eval(eval){" + STRICT + "delete a}");
-        EDGE.fine("function eval(){}", "function f(eval){}", "function f(a,a){}", "function eval(a,a){function g(){" + STRICT + "}}", "function f(a,a){b;" + STRICT + "}");
+        EDGE.fine("function eval(){}", "function f(eval){}", "function f(a,a){}", "function eval(a,a){function g(){" + STRICT + "}}",
+            "function f(a,a){b;" + STRICT + "}");
     }
 
     private static void secondDefault() {
@@ -161,7 +176,8 @@ final class TreeFaultEdgeTest {
         EDGE.fine("switch(a){}", "switch(a){default:}", "switch(a){case b:default:case c:}", "switch(a){case b:case b:}");
         EDGE.wrong(6, 18, "switch(a){default:default:}", "switch(a){default:default:default:}");
         EDGE.wrong(6, 25, "switch(a){default:case b:default:}");
-        EDGE.fine("switch(a){default:switch(b){default:}}", "switch(a){default:}switch(b){default:}", "switch(a){case b:switch(c){default:}default:}");
+        EDGE.fine("switch(a){default:switch(b){default:}}", "switch(a){default:}switch(b){default:}",
+            "switch(a){case b:switch(c){default:}default:}");
         EDGE.wrong(6, 37, "switch(a){default:switch(b){default:}default:}");
     }
 
@@ -172,7 +188,8 @@ final class TreeFaultEdgeTest {
         EDGE.wrong(6, 7, "for(;;)return");
         EDGE.wrong(6, 14, "function f(){}return");
         EDGE.wrong(6, 16, "(function(){}); return");
-        EDGE.fine("function f(){return}", "(function(){return a})", "function f(){{return}}", "function f(){for(;;)return}", "function f(){function g(){}return}");
+        EDGE.fine("function f(){return}", "(function(){return a})", "function f(){{return}}", "function f(){for(;;)return}",
+            "function f(){function g(){}return}");
     }
 
     private static void labelsWithinLabels() {
@@ -188,7 +205,8 @@ final class TreeFaultEdgeTest {
 
     private static void breaksWithoutAName() {
         EDGE.sentence("12 without a name, with no 7, 8, 9, 10, 14 around it");
-        EDGE.fine("do break;while(a)", "while(a)break", "for(;;)break", "for(a in b)break", "switch(a){case b:break}", "switch(a){default:break}");
+        EDGE.fine("do break;while(a)", "while(a)break", "for(;;)break", "for(a in b)break", "switch(a){case b:break}",
+            "switch(a){default:break}");
         EDGE.fine("for(;;){{if(a)break}}", "for(;;)a:break", "for(;;)try{}finally{break}", "while(a){b;break}");
         EDGE.wrong(6, 0, "break");
         EDGE.wrong(6, 1, "{break}");
@@ -201,7 +219,8 @@ final class TreeFaultEdgeTest {
 
     private static void continuesWithoutAName() {
         EDGE.sentence("11 without one, with no 7 to 10");
-        EDGE.fine("do continue;while(a)", "while(a)continue", "for(;;)continue", "for(a in b)continue", "for(;;)switch(a){case b:continue}", "for(;;)a:{continue}");
+        EDGE.fine("do continue;while(a)", "while(a)continue", "for(;;)continue", "for(a in b)continue",
+            "for(;;)switch(a){case b:continue}", "for(;;)a:{continue}");
         EDGE.wrong(6, 0, "continue");
         EDGE.wrong(6, 17, "switch(a){case b:continue}");
         EDGE.wrong(6, 5, "if(a)continue");
@@ -211,7 +230,8 @@ final class TreeFaultEdgeTest {
 
     private static void jumpsWithAName() {
         EDGE.sentence("11, 12 with a name that no 16 around it has");
-        EDGE.fine("a:break a", "a:{break a}", "a:b:break a", "a:b:break b", "a:if(b)break a", "a:for(;;)break a", "a:for(;;)continue a", "a:{b:;break a}");
+        EDGE.fine("a:break a", "a:{break a}", "a:b:break a", "a:b:break b", "a:if(b)break a", "a:for(;;)break a", "a:for(;;)continue a",
+            "a:{b:;break a}");
         EDGE.wrong(6, 6, "break a");
         EDGE.wrong(6, 8, "a:break b", "a:break aa", "a:break A");
         EDGE.wrong(6, 9, "a:;break a", "aa:break a");
@@ -223,7 +243,8 @@ final class TreeFaultEdgeTest {
 
     private static void continuesOfLoopsAlone() {
         EDGE.sentence("11 with one whose 16 does not have 7 to 10 as its statement (perhaps behind further labels)");
-        EDGE.fine("a:for(;;)continue a", "a:while(b)continue a", "a:do continue a;while(b)", "a:for(b in c)continue a", "a:b:for(;;)continue a", "a:b:c:for(;;)continue b");
+        EDGE.fine("a:for(;;)continue a", "a:while(b)continue a", "a:do continue a;while(b)", "a:for(b in c)continue a",
+            "a:b:for(;;)continue a", "a:b:c:for(;;)continue b");
         EDGE.fine("a:for(;;)b:for(;;)continue a", "a:for(;;){switch(b){case c:continue a}}", "a:for(;;){b:{continue a}}");
         EDGE.wrong(6, 11, "a:continue a");
         EDGE.wrong(6, 12, "a:{continue a}");
