@@ -50,7 +50,9 @@ final class ExpressionEdgeTest {
             EDGE.x("(a).b" + sign + "c", "48[41[31] 31]");
             EDGE.x("a?b:c" + sign + "d", "47[31 31 48[31 31]]");
             EDGE.wrong(4, 5, "(a+b)" + sign + "c", "(a,b)" + sign + "c");
+            EDGE.wrong(2, 4, "a+b\n" + sign + "c/g", "a++\n" + sign + "c/g", "!ab\n" + sign + "c/g");
         }
+        EDGE.tree("var a\n/=c/g", "0[2[3] 5[35]]");
     }
 
     private static void choices() {
